@@ -61,11 +61,11 @@ public final class RhymeFerry {
     private final Hearing hearing = new Hearing(rhymes);
     private final Sellers sellers = new Sellers(rhymes);
     private final Days days = new Days(rhymes, pairing);
-    private final Reader reader = new Reader(tape);
     private final Shelf acts = new Shelf(ACTS);
     private final Shelf images = new Shelf(IMAGES);
     private Tale tale = rhymes.tale;
     private Tale draft = new Tale();
+    private final Reader reader = new Reader(tape, draft);
     private int tapeLength = 0;
     private int lastFault = 0;
     private int faultPlace = 0;
@@ -299,14 +299,16 @@ public final class RhymeFerry {
         if (refused(isBank(bank), isHour(hour))) {
             return NONE;
         }
-        return purse.fewestKept(now.onBank(bank), tale.earAt(hour));
+        purse.planPairs(now.onBank(bank), tale.earAt(hour));
+        return purse.fewest(false);
     }
 
     public int refrain(int bank, int hour) {
         if (refused(isBank(bank), isHour(hour))) {
             return NONE;
         }
-        return purse.fewestSung(now.onBank(bank), tale.earAt(hour));
+        purse.planSinging(now.onBank(bank), tale.earAt(hour));
+        return purse.fewest(true);
     }
 
     // ---- what ear he has
@@ -322,14 +324,14 @@ public final class RhymeFerry {
         if (refused(hasFerry(), true)) {
             return NONE;
         }
-        return hearing.endOfEars(most);
+        return hearing.endOf(hearing.ears(), most);
     }
 
     public int ask() {
         if (refused(hasFerry(), true)) {
             return NONE;
         }
-        hearing.seekQuestion();
+        hearing.seekQuestion(hearing.ears());
         return hearing.question;
     }
 
@@ -337,7 +339,7 @@ public final class RhymeFerry {
         if (refused(hasFerry(), true)) {
             return NONE;
         }
-        hearing.seekQuestion();
+        hearing.seekQuestion(hearing.ears());
         return hearing.leaves;
     }
 
@@ -743,8 +745,10 @@ public final class RhymeFerry {
                 return FULLY;
             }
             // A poet's half was counted as full above: one letter fewer is nothing to him.
-            boolean poet = kind == POET || another == POET;
-            return !poet && isFullRhyme(kind, words, another, anothers, earNow - 1) ? BY_HALF : NOT_AT_ALL;
+            if (kind == POET || another == POET) {
+                return NOT_AT_ALL;
+            }
+            return isFullRhyme(kind, words, another, anothers, earNow - 1) ? BY_HALF : NOT_AT_ALL;
         }
     }
 
@@ -775,7 +779,7 @@ public final class RhymeFerry {
         private static final int GOT = 8;
 
         private final byte[] bytes;
-        private Tale tale = null;
+        private Tale tale;
         private int end = 0;
         private int next = 0;
         private boolean begun = false;
@@ -797,8 +801,9 @@ public final class RhymeFerry {
         int fault = 0;
         int faultPlace = 0;
 
-        Reader(byte[] tape) {
+        Reader(byte[] tape, Tale into) {
             bytes = tape;
+            tale = into;
         }
 
         void read(Tale into, int n) {
@@ -1422,7 +1427,7 @@ public final class RhymeFerry {
 
         /** The most pairs of linked people; best tells it for each part of them too. */
         int most(int[] links, int people) {
-            for (int part = 0; part < PARTS; part++) {
+            for (int part = 0; part <= people && part < PARTS; part++) {
                 if ((part & ~people) == 0) {
                     best[part] = mostIn(links, part);
                 }
@@ -1476,10 +1481,10 @@ public final class RhymeFerry {
         /** The most errands that linked people keep when they cross by pairs, in the best order. */
         int mostKept(int[] links, int people, Tale tale) {
             int all = Integer.bitCount(people);
-            for (int part = 0; part < PARTS; part++) {
+            for (int part = 0; part <= people && part < PARTS; part++) {
                 int gone = all - Integer.bitCount(part);
                 if ((part & ~people) == 0 && gone % 2 == 0) {
-                    // A crossing that isn't full is never better, so who is gone tells which is next.
+                    // To leave a place empty is never better: who is gone tells which is next.
                     int crossing = gone / 2 / Math.max(1, tale.pairs) + 1;
                     best[part] = mostKeptIn(links, part, tale, crossing);
                 }
@@ -1501,10 +1506,10 @@ public final class RhymeFerry {
             return most;
         }
 
-        /** The least coins for all in pairs; coins tells what each pair costs, less than 0: never. */
+        /** The least coins for all in pairs, by what each pair costs; less than 0: never. */
         int leastCoins(int[] coins, int people) {
             best[0] = 0;
-            for (int part = 1; part < PARTS; part++) {
+            for (int part = 1; part <= people && part < PARTS; part++) {
                 if ((part & ~people) == 0) {
                     best[part] = leastCoinsIn(coins, part);
                 }
@@ -1525,7 +1530,7 @@ public final class RhymeFerry {
             return least;
         }
 
-        /** Whether linked people can all be in pairs: at most four levels, two people gone in each. */
+        /** Whether linked people can all be in pairs; two go a level, so there are four at most. */
         static boolean canAll(int[] links, int people) {
             int p = leastOf(people);
             if (p == NONE) {
@@ -1584,28 +1589,27 @@ public final class RhymeFerry {
             return least;
         }
 
-        int fewestKept(int who, int earNow) {
+        void planPairs(int who, int earNow) {
             people = who;
             ear = earNow;
-            return fewest(false);
         }
 
-        int fewestSung(int who, int earNow) {
+        void planSinging(int who, int earNow) {
             people = who;
             Tale tale = rhymes.tale;
             for (int w = 0; w < tale.wordCount; w++) {
                 singers[w] = 0;
                 for (int p = 0; p < tale.personCount; p++) {
-                    if (tale.isFullRhyme(tale.kinds[p], rhymes.now.words[p], PLAIN, 1 << w, earNow)) {
+                    int words = rhymes.now.words[p];
+                    if (tale.isFullRhyme(tale.kinds[p], words, PLAIN, 1 << w, earNow)) {
                         singers[w] |= 1 << p;
                     }
                 }
             }
-            return fewest(true);
         }
 
-        /** The fewest words that are enough, the least bits first. */
-        private int fewest(boolean sung) {
+        /** The fewest words that are enough for what is planned, the least bits first. */
+        int fewest(boolean sung) {
             int count = rhymes.tale.wordCount;
             int all = (1 << count) - 1;
             if (!isEnough(all, sung)) {
@@ -1674,8 +1678,7 @@ public final class RhymeFerry {
             return ears;
         }
 
-        int endOfEars(boolean greatest) {
-            int ears = ears();
+        int endOf(int ears, boolean greatest) {
             int end = NOTHING;
             for (int ear = 1; ear <= EARS; ear++) {
                 if (holds(ears, ear) && (greatest || end == NOTHING)) {
@@ -1685,11 +1688,10 @@ public final class RhymeFerry {
             return end;
         }
 
-        /** Finds the first two by whom at most fewest ears are left. */
-        void seekQuestion() {
+        /** Finds the first two by whom at most fewest of some ears are left. */
+        void seekQuestion(int ears) {
             question = NOTHING;
             leaves = NOTHING;
-            int ears = ears();
             int count = ears == 0 ? 0 : rhymes.tale.personCount;
             for (int p = 0; p < count; p++) {
                 for (int q = p + 1; q < count; q++) {
@@ -1795,7 +1797,8 @@ public final class RhymeFerry {
             int near = rhymes.now.onBank(NEAR);
             int left = near;
             int drawn = seed;
-            for (int i = 0; i < n; i++) {
+            // One alone has nobody to cross with, whatever is drawn.
+            for (int i = 0; i < n && Integer.bitCount(left) > 1; i++) {
                 drawn = (75 * drawn + 74) % SEEDS;
                 int usual = rhymes.tale.earAt((rhymes.now.hour + i) % HOURS);
                 rhymes.link(Math.max(1, usual + drawn % 3 - 1));

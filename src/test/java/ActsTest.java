@@ -71,12 +71,16 @@ final class ActsTest {
         CHECK.due("trouble", x.trouble(), 0);
         CHECK.due("there again", x.person(0, 1), 1);
         CHECK.due("there again", x.person(4, 1), 1);
+        CHECK.due("not over", x.person(2, 1), 0);
+        CHECK.due("all is as it was", x.word(4, 2), 19);
         CHECK.due("undo buy", x.undo(), true);
         CHECK.due("not paid", x.size(9), 0);
         CHECK.due("not bought", x.person(0, 2), 1);
         CHECK.due("undo cross by half", x.undo(), true);
         CHECK.due("not wet", x.person(0, 3), 0);
+        CHECK.due("not over", x.person(0, 1), 0);
         CHECK.due("not over", x.person(1, 1), 0);
+        CHECK.due("over as ever", x.person(4, 1), 1);
         CHECK.due("undo hours", x.undo(), true);
         CHECK.due("the hour", x.size(8), 0);
         CHECK.due("no more", x.undo(), false);
@@ -119,7 +123,10 @@ final class ActsTest {
         CHECK.due("hour", x.size(8), 5);
         CHECK.due("wet", x.person(1, 3), 1);
         CHECK.due("bank", x.person(0, 1), 1);
+        CHECK.due("bank", x.person(1, 1), 1);
         CHECK.due("bank", x.person(2, 1), 0);
+        CHECK.due("bank", x.person(3, 1), 0);
+        CHECK.due("bank", x.person(4, 1), 1);
         CHECK.due("words", x.person(2, 2), 9);
         CHECK.due("paid", x.size(9), 10);
         CHECK.due("nothing to undo", x.size(10), 0);

@@ -9,6 +9,7 @@ final class DaysTest {
         seeds();
         hours();
         pairs();
+        bounds();
         leftOver();
         nothingChanges();
         wrongInputs();
@@ -67,6 +68,30 @@ final class DaysTest {
             + ";person n child on far has a;person o child on near has a");
         CHECK.answer(far, "nobody comes back", far.day(3, 24), 0);
         CHECK.answer(far, "who was over", far.crossedIn(0, 3, 24), -2);
+    }
+
+    private static void bounds() {
+        String two = ";word a sounds ab price 1;word b sounds cb price 1;word c sounds hh price 1"
+            + ";person m plain on near has a;person n plain on near has b;person o plain on near has c";
+        RhymeFerry x = Check.told("ferry ear 2 pairs 1" + two + ";hour 1 ear 1");
+        String deaf = ";word aaaaaaa sounds ab price 1;word aaaaaa sounds ab price 1;person m deaf on near has ";
+        RhymeFerry seven = Check.told("ferry ear 2 pairs 1" + deaf + "aaaaaaa;person n deaf on near has aaaaaaa;hour 0 ear 6");
+        RhymeFerry six = Check.told("ferry ear 2 pairs 1" + deaf + "aaaaaaa;person n deaf on near has aaaaaa;hour 0 ear 6");
+        for (int seed = 0; seed < 100; seed++) {
+            CHECK.answer(x, "one letter, ear 1 to 3", x.day(seed, 1), drawn(seed) < 0 ? 2 : 0);
+            CHECK.answer(seven, "seven letters, ear 5 to 7", seven.day(seed, 1), 2);
+            CHECK.answer(six, "six letters, ear 5 to 7", six.day(seed, 1), drawn(seed) <= 0 ? 2 : 0);
+        }
+        x.hours(1);
+        for (int seed = 0; seed < 100; seed++) {
+            CHECK.answer(x, "ear 1 or 2, never 0", x.day(seed, 1), drawn(seed) <= 0 ? 2 : 0);
+            CHECK.answer(x, "o rhymes with nobody", x.crossedIn(2, seed, 1), -2);
+        }
+        RhymeFerry none = Check.told("ferry ear 2 pairs 1;word a sounds ab price 1;word c sounds hh price 1"
+            + ";person m plain on near has a;person n plain on near has c;hour 0 ear 1");
+        for (int seed = 0; seed < 100; seed++) {
+            CHECK.answer(none, "no letter, ear 1 at least", none.day(seed, 1), 0);
+        }
     }
 
     private static void leftOver() {

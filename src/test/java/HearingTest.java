@@ -46,6 +46,7 @@ final class HearingTest {
         x.buy(1, 3);
         x.buy(2, 3);
         CHECK.answer(x, "the first of like ones", x.ask(), 2);
+        CHECK.answer(x, "askLeaves as the first call", Check.told(THREE).askLeaves(), 3);
         asks(THREE + ";got m n over", 2, 3);
         asks(THREE + ";got o m over;got m n over", 1, 3);
         asks(THREE + ";got o m back", 1, 1);

@@ -39,6 +39,8 @@ final class SellersTest {
         CHECK.answer(y, "the first", y.rest(0, 1, 0), firstRest(0, 0, 1));
         RhymeFerry z = Check.told("ferry ear 2 pairs 1;word a sounds ab price 1;word b sounds cd price 1"
             + ";word c sounds hh price 1;person m plain on near has a;person n plain on near has c");
+        CHECK.answer(z, "rest as the first call", Check.told("ferry ear 2 pairs 1;word a sounds ab price 1"
+            + ";word b sounds cd price 1;person m plain on near has a;person n plain on near has b").rest(0, 1, 0), 99);
         CHECK.answer(z, "m by c; n by a: each is sold one", z.rests(0, 2, 0), rests(1, 1, 0));
         CHECK.answer(z, "both as dear as can be", z.rest(0, 2, 0), 99);
     }

@@ -9,6 +9,7 @@ final class TextTest {
         newObject();
         tape();
         ferries();
+        nothingOfFormerFerries();
         faultAndWhere();
         form();
         tokens();
@@ -90,6 +91,29 @@ final class TextTest {
         CHECK.due("banks as told", x.person(1, 1), 1);
     }
 
+    private static void nothingOfFormerFerries() {
+        String words = ";word a sounds ab price 5;word b sounds ac price 6;person p plain on near has a"
+            + ";person q plain on near has b";
+        RhymeFerry x = Check.told("ferry ear 2 pairs 2" + words + ";alike b c;hour 3 ear 6;errand p by 3;got p q over");
+        CHECK.due("alike", x.rhyme(0, 1, 0), 2);
+        for (int i = 0; i < 3; i++) {
+            Check.tell(x, "ferry ear 2 pairs 1" + words);
+            CHECK.due("not alike any more", x.like(0, 1), 0);
+            CHECK.due("no rhyme any more", x.rhyme(0, 1, 0), 0);
+            CHECK.due("no hour any more", x.ear(3), 2);
+            CHECK.due("no errand any more", x.person(0, 4), 0);
+            CHECK.due("nothing got any more", x.heard(), 6);
+            for (int what = 4; what <= 7; what++) {
+                CHECK.due("size " + what, x.size(what), 0);
+            }
+        }
+        Check.tell(x, "ferry ear 2 pairs 1;word a sounds ab price 5;person p plain on near has a");
+        CHECK.due("one word", x.word(1, 0), -1);
+        CHECK.due("one person", x.person(1, 0), -1);
+        Check.tell(x, "ferry ear 9");
+        CHECK.due("a text with a fault leaves nothing", x.size(2), 1);
+    }
+
     private static void faultAndWhere() {
         RhymeFerry x = new RhymeFerry();
         Check.tell(x, FERRY + "!");
@@ -136,6 +160,8 @@ final class TextTest {
         CHECK.fault(FERRY + ";word 5", 1, 25);
         behind(TWO_WORDS, ";person p ", "shy", 1);
         behind(TWO_WORDS, ";person p deaf ", "at", 1);
+        behind(TWO_WORDS, ";person p deaf", "", 1);
+        behind(TWO_WORDS, ";person p deaf", ";word u sounds ab price 1", 1);
         behind(TWO_WORDS, ";person p deaf on ", "mid", 1);
         behind(TWO_WORDS, ";person p deaf on near ", "had", 1);
         behind(TWO_WORDS, ";person p deaf on near has ", "5", 1);
@@ -267,7 +293,7 @@ final class TextTest {
         behind(alikes, ";", "alike a h", 5);
         StringBuilder hours = new StringBuilder(people);
         for (int i = 0; i < 8; i++) {
-            hours.append(";hour ").append(3 * i).append(" ear 3");
+            hours.append(";hour ").append(3 * i).append(" ear ").append(1 + i % 6);
         }
         behind(hours.toString(), ";", "hour 1 ear 1", 5);
         String gots = people + ";got m n over;got m o over;got m p over;got m q over;got m r over;got m s over";

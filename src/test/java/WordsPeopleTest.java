@@ -45,7 +45,9 @@ final class WordsPeopleTest {
             + ";word c sounds gch price 0;word d sounds hbg price 0;alike a b;alike c b"
             + ";person p plain on near has a");
         CHECK.answer(x, "a and b", x.like(0, 1), 3);
-        CHECK.answer(x, "c and b, told the other way", x.like(2, 1), 3);
+        CHECK.answer(x, "c and b", x.like(2, 1), 3);
+        CHECK.answer(x, "b and a", x.like(1, 0), 3);
+        CHECK.answer(x, "b and c", x.like(1, 2), 3);
         CHECK.answer(x, "a and c are not alike by b", x.like(0, 2), 1);
         CHECK.answer(x, "g and h", x.like(1, 3), 0);
         CHECK.answer(x, "names are not alike by letters that are", x.eye(0, 1), 0);
@@ -182,6 +184,8 @@ final class WordsPeopleTest {
             + ";person n plain on near has b;person o plain on near has c;person p plain on far has d");
         CHECK.answer(y, "the first of like prices", y.cheapest(0, 0), 1);
         CHECK.answer(y, "one that he hasn't", y.cheapest(1, 0), 2);
+        CHECK.answer(x, "the first word of all", Check.told("ferry ear 2 pairs 1;word a sounds ab price 9"
+            + ";word b sounds cd price 4;person m plain on near has a;person n plain on near has b").cheapest(1, 0), 0);
         y.buy(0, 1);
         CHECK.answer(y, "not by one with whom he rhymes", y.cheapest(0, 0), 2);
         y.buy(0, 2);
