@@ -1531,7 +1531,7 @@ public final class RhymeFerry {
         }
 
         /** Whether linked people can all be in pairs; two go a level, so there are four at most. */
-        static boolean canAll(int[] links, int people) {
+        private static boolean canAll(int[] links, int people) {
             int p = leastOf(people);
             if (p == NONE) {
                 return true;

@@ -77,19 +77,19 @@ final class DaysTest {
         String deaf = ";word aaaaaaa sounds ab price 1;word aaaaaa sounds ab price 1;person m deaf on near has ";
         RhymeFerry seven = Check.told("ferry ear 2 pairs 1" + deaf + "aaaaaaa;person n deaf on near has aaaaaaa;hour 0 ear 6");
         RhymeFerry six = Check.told("ferry ear 2 pairs 1" + deaf + "aaaaaaa;person n deaf on near has aaaaaa;hour 0 ear 6");
-        for (int seed = 0; seed < 100; seed++) {
+        for (int seed = 0; seed < 65537; seed += 661) {
             CHECK.answer(x, "one letter, ear 1 to 3", x.day(seed, 1), drawn(seed) < 0 ? 2 : 0);
             CHECK.answer(seven, "seven letters, ear 5 to 7", seven.day(seed, 1), 2);
             CHECK.answer(six, "six letters, ear 5 to 7", six.day(seed, 1), drawn(seed) <= 0 ? 2 : 0);
         }
         x.hours(1);
-        for (int seed = 0; seed < 100; seed++) {
+        for (int seed = 0; seed < 65537; seed += 661) {
             CHECK.answer(x, "ear 1 or 2, never 0", x.day(seed, 1), drawn(seed) <= 0 ? 2 : 0);
             CHECK.answer(x, "o rhymes with nobody", x.crossedIn(2, seed, 1), -2);
         }
         RhymeFerry none = Check.told("ferry ear 2 pairs 1;word a sounds ab price 1;word c sounds hh price 1"
             + ";person m plain on near has a;person n plain on near has c;hour 0 ear 1");
-        for (int seed = 0; seed < 100; seed++) {
+        for (int seed = 0; seed < 65537; seed += 661) {
             CHECK.answer(none, "no letter, ear 1 at least", none.day(seed, 1), 0);
         }
     }

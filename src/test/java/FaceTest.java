@@ -50,6 +50,12 @@ final class FaceTest {
             }
         }
         CHECK.due("methods " + found, found.equals(due), true);
+        for (Class<?> inside : RhymeFerry.class.getDeclaredClasses()) {
+            for (Method method : inside.getDeclaredMethods()) {
+                CHECK.due(inside.getName() + " " + method.getName(), names.contains(method.getName()), false);
+                CHECK.due(method.getName() + " has at most seven", method.getParameterCount() <= 7, true);
+            }
+        }
     }
 
     private static void others() {

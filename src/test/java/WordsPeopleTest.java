@@ -43,13 +43,15 @@ final class WordsPeopleTest {
     private static void alikes() {
         RhymeFerry x = Check.told("ferry ear 2 pairs 1;word a sounds gah price 0;word b sounds gbh price 0"
             + ";word c sounds gch price 0;word d sounds hbg price 0;alike a b;alike c b"
-            + ";person p plain on near has a");
+            + ";alike a g;person p plain on near has a;word e sounds ggh price 0");
         CHECK.answer(x, "a and b", x.like(0, 1), 3);
         CHECK.answer(x, "c and b", x.like(2, 1), 3);
         CHECK.answer(x, "b and a", x.like(1, 0), 3);
         CHECK.answer(x, "b and c", x.like(1, 2), 3);
         CHECK.answer(x, "a and c are not alike by b", x.like(0, 2), 1);
         CHECK.answer(x, "g and h", x.like(1, 3), 0);
+        CHECK.answer(x, "a and g, told behind a and b", x.like(0, 4), 3);
+        CHECK.answer(x, "g and a", x.like(4, 0), 3);
         CHECK.answer(x, "names are not alike by letters that are", x.eye(0, 1), 0);
     }
 
