@@ -12,6 +12,12 @@ final class Check {
         + ";person ed child on far has moon;knows bo moon;hour 5 ear 2;hour 9 ear 5"
         + ";errand al by 1;errand cy by 2;got al di over";
 
+    /** A ferry of one word and one person: the least there is. */
+    static final String LEAST = "ferry ear 2 pairs 1;word w sounds ab price 1;person p plain on near has w";
+
+    /** As many words and people as there is room for. */
+    static final String FULL = full();
+
     private int wrong = 0;
     private int count = 0;
 
@@ -39,6 +45,15 @@ final class Check {
         due(what + ": trouble", x.trouble(), 0);
     }
 
+    /** Two texts that must be the same. */
+    void same(String what, String got, String want) {
+        count++;
+        if (!got.equals(want)) {
+            wrong++;
+            System.out.println(what + ":\n  got " + got + "\n  due " + want);
+        }
+    }
+
     void noLed(RhymeFerry x, int i) {
         boolean thrown = false;
         try {
@@ -56,6 +71,60 @@ final class Check {
         due(what + ": trouble", x.trouble(), 4);
         due(what + ": fault", x.fault(), fault);
         due(what + ": where", x.where(), where);
+    }
+
+    private static String full() {
+        StringBuilder text = new StringBuilder("ferry ear 2 pairs 1");
+        for (int i = 0; i < 10; i++) {
+            text.append(";word ").append((char) ('a' + i)).append(" sounds ab price ").append(i);
+        }
+        for (int i = 0; i < 8; i++) {
+            text.append(";person ").append((char) ('m' + i)).append(" plain on near has a");
+        }
+        return text.toString();
+    }
+
+    /** FIVE in the midst of things: two wet and over, a word bought, two images, three acts, and LEAST on the tape. */
+    static RhymeFerry busy() {
+        RhymeFerry x = told(FIVE);
+        x.image();
+        x.hours(5);
+        x.cross(0, 1);
+        x.image();
+        x.buy(2, 0);
+        feed(x, LEAST);
+        return x;
+    }
+
+    /** All that is told of what stands now, by no call that may change it. */
+    static String state(RhymeFerry x) {
+        StringBuilder told = new StringBuilder();
+        for (int what = 0; what <= 12; what++) {
+            told.append(x.size(what)).append(' ');
+        }
+        for (int w = 0; w < x.size(2); w++) {
+            told.append('w').append(x.word(w, 0)).append(' ').append(x.word(w, 1)).append(' ').append(x.word(w, 2)).append(' ');
+        }
+        for (int p = 0; p < x.size(3); p++) {
+            told.append('p');
+            for (int what = 0; what <= 4; what++) {
+                told.append(x.person(p, what)).append(' ');
+            }
+        }
+        return told.toString();
+    }
+
+    /** All that an object holds: what stands, what can be undone, the images, the tape. It is used up by that. */
+    static String everything(RhymeFerry x) {
+        StringBuilder all = new StringBuilder(state(x));
+        for (int i = 0; i < 20 && x.undo(); i++) {
+            all.append("undone ").append(state(x));
+        }
+        for (int image = 0; image < 4 && x.back(image); image++) {
+            all.append("image ").append(state(x));
+        }
+        all.append("tape ").append(x.ferry(x.size(12)));
+        return all.append(' ').append(x.fault()).append(' ').append(x.where()).append(' ').append(state(x)).toString();
     }
 
     static RhymeFerry told(String text) {

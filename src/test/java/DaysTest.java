@@ -82,10 +82,11 @@ final class DaysTest {
             CHECK.answer(seven, "seven letters, ear 5 to 7", seven.day(seed, 1), 2);
             CHECK.answer(six, "six letters, ear 5 to 7", six.day(seed, 1), drawn(seed) <= 0 ? 2 : 0);
         }
-        x.hours(1);
+        RhymeFerry later = Check.told("ferry ear 2 pairs 1" + two + ";hour 1 ear 1");
+        later.hours(1);
         for (int seed = 0; seed < 65537; seed += 661) {
-            CHECK.answer(x, "ear 1 or 2, never 0", x.day(seed, 1), drawn(seed) <= 0 ? 2 : 0);
-            CHECK.answer(x, "o rhymes with nobody", x.crossedIn(2, seed, 1), -2);
+            CHECK.answer(later, "ear 1 or 2, never 0", later.day(seed, 1), drawn(seed) <= 0 ? 2 : 0);
+            CHECK.answer(later, "o rhymes with nobody", later.crossedIn(2, seed, 1), -2);
         }
         RhymeFerry none = Check.told("ferry ear 2 pairs 1;word a sounds ab price 1;word c sounds hh price 1"
             + ";person m plain on near has a;person n plain on near has c;hour 0 ear 1");

@@ -6,8 +6,9 @@ import java.util.Random;
 /** Runs of calls by fixed seeds, on the class and on the plain model of the document. */
 final class ModelTest {
     private static final Check CHECK = new Check();
-    private static final int RUNS = 1500;
-    private static final int CALLS = 150;
+    private static final int RUNS = 2400;
+    /** An object is good for 512 calls; a text and what follows takes 49 at most. */
+    private static final int CALLS = 512 - 49;
     private static final String[] NAMES = {"a", "b", "hat", "cat", "chat", "that", "at", "smith", "kith", "it", "moon",
         "soon", "on", "near", "ear", "sounds", "plain", "abcdefgh", "xbcdefgh", "efgh"};
     private static final String[] KINDS = {"plain", "plain", "plain", "plain", "plain", "plain", "deaf", "deaf", "poet",
@@ -34,11 +35,11 @@ final class ModelTest {
     private void run(int seed) {
         int calls = 0;
         while (calls < CALLS) {
-            if (calls == 0 || random.nextInt(60) == 0) {
+            if (calls == 0 || random.nextInt(40) == 0) {
                 calls += tell(seed);
             }
             call("run " + seed + " ");
-            calls++;
+            calls += 4;
         }
     }
 
@@ -54,7 +55,7 @@ final class ModelTest {
         String what = "run " + seed + " '" + text + "' ";
         CHECK.due(what + "ferry", Check.tell(x, text), model.ferry(text));
         same(what);
-        return 1 + text.length() / 20;
+        return (text.length() + 19) / 20 + 4;
     }
 
     private String text(boolean spoilt) {
