@@ -1142,7 +1142,7 @@ public final class RhymeFerry {
             }
             boolean fits = length >= 2 && length <= 6;
             for (int i = 0; i < NAME_LETTERS; i++) {
-                fits &= (letters >>> LETTER_BITS * i & LETTER_MASK) <= SOUND_LETTERS;
+                fits = fits && (letters >>> LETTER_BITS * i & LETTER_MASK) <= SOUND_LETTERS;
             }
             if (!fits) {
                 return fail(SOUNDS);

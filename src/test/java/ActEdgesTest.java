@@ -15,6 +15,7 @@ final class ActEdgesTest {
         undoEachAct();
         sixteenActs();
         whatIsRefusedIsNoAct();
+        peopleAndWordsAsNow();
         threeImages();
         backToAnImage();
         nothingCanBeUndoneThen();
@@ -71,6 +72,12 @@ final class ActEdgesTest {
         CHECK.answer(x, "fully", x.cross(0, 1), 2);
         CHECK.due("no more", x.person(0, 3), 5);
         CHECK.due("no more", x.person(1, 3), 5);
+        RhymeFerry often = Check.told(TWO);
+        for (int i = 0; i < 480; i++) {
+            often.cross(0, 1);
+        }
+        CHECK.due("as often as an object is good for", often.person(0, 3), 480);
+        CHECK.due("and back", often.person(0, 1), 0);
         RhymeFerry poet = Check.told(TWO);
         CHECK.answer(poet, "a poet's half is fully", poet.cross(2, 0), 2);
         CHECK.due("dry", poet.person(2, 3), 0);
@@ -220,6 +227,36 @@ final class ActEdgesTest {
         CHECK.due("undo", x.undo(), true);
         CHECK.due("the hour", x.size(8), 0);
         CHECK.due("an image is not undone", x.size(11), 1);
+    }
+
+    /** Terms III: "People, words as NOW.": all answers go by what was bought, who has crossed, and what was undone. */
+    private static void peopleAndWordsAsNow() {
+        // At hour 0 the ear is 1, by a draw 2 at most: of two letters they rhyme fully, of none by half.
+        String text = "ferry ear 2 pairs 1;word a sounds ab price 3;word b sounds cd price 5;word c sounds ef price 7"
+            + ";person m plain on near has a;person n plain on near has b;errand m by 1;got m n over;hour 0 ear 1;hour 1 ear 2";
+        RhymeFerry x = Check.told(text);
+        String before = "1 0 1 2 -2 0 1 1 2 0 -2 3 0 0 3 1 3 0 -2 -2 -2 9 9 1 99 0 -2";
+        CHECK.same("nothing bought", answers(x), before);
+        x.buy(0, 1);
+        CHECK.same("m has bought b", answers(x), "2 2 3 1 0 24 -2 1 2 1 1 0 1 -2 0 0 2 2 2 1 2 0 0 100 0 2 1");
+        CHECK.due("over", x.cross(0, 1), 2);
+        CHECK.same("both are over", answers(x), "2 2 3 1 0 24 -2 1 2 0 -2 0 0 -2 0 0 0 2 2 1 2 0 0 100 0 0 -2");
+        x.undo();
+        x.undo();
+        CHECK.same("undone", answers(x), before);
+    }
+
+    private static String answers(RhymeFerry x) {
+        int[] all = {x.rhyme(0, 1, 0), x.with(0, 0), x.classOf(0, 0), x.classes(0), x.meets(0, 1), x.often(0, 1), x.cheapest(0, 0),
+            x.bestName(0, 0), x.renamed(0, 1, 0), x.pairs(0, 0), x.partner(0, 0, 0), x.alone(0, 0), x.kept(0), x.judge(),
+            x.coins(0, 0), x.keep(0, 0), x.refrain(0, 0), x.heard(), x.heardEar(true), x.ask(), x.askLeaves(),
+            x.sells(0, 9, 1, 9, 0, false), x.sells(0, 9, 1, 9, 0, true), x.rests(0, 1, 0), x.rest(0, 1, 0), x.day(0, 1),
+            x.crossedIn(0, 0, 1)};
+        StringBuilder text = new StringBuilder();
+        for (int answer : all) {
+            text.append(text.length() == 0 ? "" : " ").append(answer);
+        }
+        return text.toString();
     }
 
     // ---- IMAGES

@@ -105,6 +105,14 @@ final class AskEdgesTest {
         x.buy(3, 2);
         CHECK.answer(x, "by words NOW", x.heard(), 2);
         CHECK.answer(x, "all that rhyme do so by both", x.askLeaves(), 2);
+        CHECK.answer(x, "the first then", x.ask(), 1);
+        x.undo();
+        CHECK.answer(x, "no ear again", x.ask(), -2);
+        CHECK.answer(x, "nothing left", x.askLeaves(), -2);
+        RhymeFerry y = Check.told(FOUR);
+        CHECK.answer(y, "some", y.ask(), 1);
+        Check.tell(y, Check.LEAST);
+        CHECK.answer(y, "one alone by another text", y.ask(), -2);
     }
 
     // ---- SELLERS

@@ -103,6 +103,12 @@ final class PairEdgesTest {
         for (int p = 0; p < 4; p++) {
             CHECK.answer(y, "partner of " + p, y.partner(p, 0, 0), first[p]);
         }
+        // A row n - m - o - p - q: m with n, and then, of what is left alone, o with p.
+        RhymeFerry row = ferry(2, 1, people("near", "a", "a", "b", "c", "d") + ";knows m b;knows o c;knows p d");
+        int[] along = {1, 0, 3, 2, -2};
+        for (int p = 0; p < 5; p++) {
+            CHECK.answer(row, "partner of " + p, row.partner(p, 0, 0), along[p]);
+        }
         // m - n or m - o, then p with who is left of q and r: each the least.
         RhymeFerry z = ferry(2, 1, people("near", "a", "a", "a", "b", "b", "b"));
         int[] least = {1, 0, -2, 4, 3, -2};

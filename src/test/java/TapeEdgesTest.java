@@ -15,6 +15,7 @@ final class TapeEdgesTest {
         tapeStaysOrIsEmpty();
         faultLeavesTheFerry();
         everythingAnew();
+        nothingOfFormerFerries();
         howManyPeople();
         fault();
         where();
@@ -222,6 +223,48 @@ final class TapeEdgesTest {
         RhymeFerry z = Check.busy();
         CHECK.answer(z, "a smaller one", z.ferry(Check.LEAST.length()), 1);
         CHECK.same("as it is told", Check.everything(z), Check.everything(Check.told(Check.LEAST)));
+    }
+
+    /** A FERRY is as its own text tells, whatever ferries and faulty texts there were ahead of it. */
+    private static void nothingOfFormerFerries() {
+        String far = Check.FULL.replace("near", "far").replace("plain", "deaf");
+        String eight = Check.FULL + ";knows m b;knows m c;knows m d;knows m e;knows m f;knows m g;knows m h;knows m i";
+        String much = "ferry ear 4 pairs 3;word a sounds abcd price 99;word b sounds abed price 0;person p poet on far has a"
+            + ";person q child on near has b;alike a b;alike c d;alike c e;alike g h;hour 0 ear 1;hour 1 ear 6;hour 2 ear 5"
+            + ";hour 3 ear 4;hour 4 ear 3;hour 5 ear 2;hour 6 ear 1;hour 7 ear 2;errand p by 4;errand q by 1;got p q over"
+            + ";got p q back;got p q wet;got p q back;got p q back;got p q wet";
+        String[] texts = {Check.LEAST, Check.FIVE, Check.FULL, far, eight, much};
+        for (String text : texts) {
+            String due = answers(Check.told(text));
+            for (String former : texts) {
+                RhymeFerry x = Check.told(former);
+                Check.tell(x, former + ";got");
+                Check.tell(x, former);
+                CHECK.due("people", Check.tell(x, text), Check.told(text).size(3));
+                CHECK.same("one behind two others", answers(x), due);
+                RhymeFerry y = Check.told(text);
+                Check.tell(y, former);
+                Check.tell(y, text);
+                CHECK.same("one again behind another", answers(y), due);
+            }
+        }
+    }
+
+    /** What stands and what follows from what was told. */
+    private static String answers(RhymeFerry x) {
+        StringBuilder all = new StringBuilder(Check.state(x)).append("ears ");
+        for (int hour = 0; hour < 24; hour++) {
+            all.append(x.ear(hour)).append(' ');
+        }
+        for (int p = 0; p < x.size(3); p++) {
+            all.append(x.with(p, 0)).append(' ').append(x.partner(p, 1, 0)).append(' ');
+        }
+        for (int w = 0; w < x.size(2); w++) {
+            all.append(x.like(0, w)).append(' ').append(x.eye(0, w)).append(' ');
+        }
+        int[] more = {x.judge(), x.heard(), x.ask(), x.askLeaves(), x.kept(0), x.pairs(0, 0), x.pairs(1, 0), x.coins(0, 0),
+            x.keep(0, 0), x.refrain(0, 0), x.day(0, 5)};
+        return all.append(Arrays.toString(more)).toString();
     }
 
     /** "how many people": 1 at least, 8 at most. */
