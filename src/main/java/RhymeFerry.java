@@ -1552,28 +1552,29 @@ public final class RhymeFerry {
         private final Pairing pairing;
         private final int[] coins = new int[PEOPLE * PEOPLE];
         private final int[] links = new int[PEOPLE];
+        /** For a word and a person: the people he rhymes with if that word is bought for both. */
+        private final int[] linksBy = new int[WORDS * PEOPLE];
         private final int[] singers = new int[WORDS];
         private int people = 0;
-        private int ear = 0;
 
         Purse(Rhymes byWords, Pairing byLinks) {
             rhymes = byWords;
             pairing = byLinks;
         }
 
-        int leastCoins(int who, int earNow) {
-            ear = earNow;
+        int leastCoins(int who, int ear) {
             int count = rhymes.tale.personCount;
             for (int p = 0; p < count; p++) {
                 for (int q = p + 1; q < count; q++) {
-                    coins[p * PEOPLE + q] = holds(who, p) && holds(who, q) ? coinsFor(p, q) : NONE;
+                    boolean both = holds(who, p) && holds(who, q);
+                    coins[p * PEOPLE + q] = both ? coinsFor(p, q, ear) : NONE;
                 }
             }
             return pairing.leastCoins(coins, who);
         }
 
         /** What it costs that two rhyme fully, by a word each; less than 0 if they never do. */
-        private int coinsFor(int p, int q) {
+        private int coinsFor(int p, int q, int ear) {
             Tale tale = rhymes.tale;
             int least = NONE;
             for (int w = 0; w < tale.wordCount; w++) {
@@ -1589,19 +1590,25 @@ public final class RhymeFerry {
             return least;
         }
 
-        void planPairs(int who, int earNow) {
+        void planPairs(int who, int ear) {
             people = who;
-            ear = earNow;
+            rhymes.link(ear);
+            for (int w = 0; w < rhymes.tale.wordCount; w++) {
+                for (int p = 0; p < rhymes.tale.personCount; p++) {
+                    int words = rhymes.now.words[p] | 1 << w;
+                    linksBy[w * PEOPLE + p] = rhymes.metBy(p, words, 1 << w, ear);
+                }
+            }
         }
 
-        void planSinging(int who, int earNow) {
+        void planSinging(int who, int ear) {
             people = who;
             Tale tale = rhymes.tale;
             for (int w = 0; w < tale.wordCount; w++) {
                 singers[w] = 0;
                 for (int p = 0; p < tale.personCount; p++) {
                     int words = rhymes.now.words[p];
-                    if (tale.isFullRhyme(tale.kinds[p], words, PLAIN, 1 << w, earNow)) {
+                    if (tale.isFullRhyme(tale.kinds[p], words, PLAIN, 1 << w, ear)) {
                         singers[w] |= 1 << p;
                     }
                 }
@@ -1638,9 +1645,12 @@ public final class RhymeFerry {
         }
 
         private boolean allPair(int words) {
+            // Two who rhyme by two words bought rhyme by either one alone, if both have it: no
+            // word is more like another than like itself. So words need not be tried together.
             for (int p = 0; p < rhymes.tale.personCount; p++) {
-                if (holds(people, p)) {
-                    links[p] = rhymes.metBy(p, rhymes.now.words[p] | words, words, ear);
+                links[p] = rhymes.links[p];
+                for (int w = 0; w < rhymes.tale.wordCount; w++) {
+                    links[p] |= holds(words, w) ? linksBy[w * PEOPLE + p] : 0;
                 }
             }
             return Pairing.canAll(links, people);
